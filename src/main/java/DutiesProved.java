@@ -675,7 +675,7 @@ public final class DutiesProved {
         int demandWithin(int t) {
             int together = 0;
             for (int task = 0; task < number; task++) {
-                if (isOn(task)) {
+                if ((onBits & (1 << task)) != 0) {
                     together += cost[task] * owedWithin(task, t);
                 }
             }

@@ -149,6 +149,20 @@ public final class ModelTest {
         }
     }
 
+    /** The points that there would be if the task were of another kind or figure. */
+    private void tellRowOfPoints(int task) {
+        java.util.List<Model.Duty> all = Model.copy(model.duties);
+        if (task >= 0 && task < all.size()) {
+            if (below(2) == 0) all.get(task).kind = below(6);
+            else all.get(task).figure = below(10);
+        }
+        same("clear()", real.clear(), model.clear());
+        int many = 1 + below(4);
+        for (int told : Model.pointsOf(all)) {
+            if (many-- > 0) same("row(" + told + ")", real.row(told), model.row(told));
+        }
+    }
+
     private String number(int most) {
         int odd = below(60);
         if (odd == 0) return "";
@@ -317,6 +331,7 @@ public final class ModelTest {
                 return;
             }
             case 25:
+                if (below(3) > 0) tellRowOfPoints(i);
                 same("whatIs(" + i + "," + what + ")", real.whatIs(i, what), model.whatIs(i, what));
                 return;
             case 26:
