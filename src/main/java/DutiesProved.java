@@ -158,7 +158,7 @@ public final class DutiesProved {
     }
 
     public int busy() {
-        return duties.busyTime();
+        return points.busyTime(duties);
     }
 
     public int point(int i) {
@@ -692,19 +692,6 @@ public final class DutiesProved {
             return together;
         }
 
-        int busyTime() {
-            int t = workAsked(onBits, 1);
-            // Each step but the last makes t greater, so LONGEST of them are enough.
-            for (int step = 0; step <= LONGEST && t <= LONGEST; step++) {
-                int next = workAsked(onBits, t);
-                if (next == t) {
-                    return t;
-                }
-                t = next;
-            }
-            return NONE;
-        }
-
         int costTogether() {
             int together = 0;
             for (int task = 0; task < number; task++) {
@@ -739,15 +726,30 @@ public final class DutiesProved {
 
     // Goes from one POINT to the next.
     private static final class PointWalk {
+        private int busyEnd = 0;
         private int end = 0;
         private int at = 0;
         private int demand = 0;
 
         private void begin(Duties duties) {
-            int busy = duties.busyTime();
-            end = busy == NONE ? LONGEST : busy;
+            busyEnd = NONE;
+            int t = duties.workAsked(duties.onBits, 1);
+            // Each step but the last makes t greater, so LONGEST of them are enough.
+            for (int step = 0; step <= LONGEST && t <= LONGEST && busyEnd == NONE; step++) {
+                int next = duties.workAsked(duties.onBits, t);
+                if (next == t) {
+                    busyEnd = t;
+                }
+                t = next;
+            }
+            end = busyEnd == NONE ? LONGEST : busyEnd;
             at = 0;
             demand = 0;
+        }
+
+        int busyTime(Duties duties) {
+            begin(duties);
+            return busyEnd;
         }
 
         private boolean goOn(Duties duties) {
