@@ -424,6 +424,9 @@ final class DemandEdges {
         Sentence.due("one", x.anew(), 2);
         x.turns(0);
         Sentence.due("none is ON", x.anew(), 1);
+        Sentence.due("six alike", ofDistances(60, 60, 60, 60, 60, 60).anew(), 60);
+        Sentence.due("each the half of the next", ofDistances(2, 4, 8, 16, 32, 64).anew(), 64);
+        Sentence.due("some of each in the next", ofDistances(69, 66, 44, 40, 60, 63).anew(), 637560);
         Sentence.due("the largest that there is", ofDistances(7, 37, 46, 47, 59, 65).anew(), 2147438930);
         DutiesProved above = ofDistances(11, 25, 43, 47, 56, 69);
         Sentence.due("the least above", above.anew(), -9);

@@ -21,12 +21,11 @@ public final class PromiseTest {
     }
 
     private static void tell(DutiesProved x, String text) {
-        for (int i = 0; i < text.length(); i++) x.letter(text.charAt(i));
+        Sentence.tell(x, text);
     }
 
     private static int told(DutiesProved x, String text) {
-        tell(x, text);
-        return x.tells();
+        return Sentence.told(x, text);
     }
 
     private static DutiesProved of(String text) {

@@ -12,6 +12,7 @@ final class RowEdges {
         kindsOfAnEmptyRow();
         kindsByOnePoint();
         figuresByOnePoint();
+        kindsAsAllIsNow();
         rowsOfEight();
         rowsTooLong();
         rowsOfFarNumbers();
@@ -83,6 +84,25 @@ final class RowEdges {
                 }
             }
         }
+    }
+
+    private static void kindsAsAllIsNow() {
+        Sentence.says(34, "KINDS (bits) by which, FIGURE as it is, they begin so");
+        DutiesProved x = Sentence.made(Sentence.task(20, 60, 20));
+        tellRow(x, 20);
+        Sentence.due("one made", x.whatIs(0, 0), 63);
+        x.cost(0, 19);
+        Sentence.due("of less COST BURSTY alone", x.whatIs(0, 0), 8);
+        x.cost(0, 20);
+        x.tasks(20, 60, 19);
+        Sentence.due("another one's POINT ahead", x.whatIs(0, 0), 0);
+        x.turns(1);
+        Sentence.due("it isn't ON", x.whatIs(0, 0), 63);
+        x.image();
+        x.turns(0);
+        Sentence.due("none is ON", x.whatIs(0, 0), 0);
+        x.on();
+        Sentence.due("ON again by the IMAGE", x.whatIs(0, 0), 63);
     }
 
     private static void rowsOfEight() {
