@@ -724,7 +724,7 @@ public final class DutiesProved {
         }
     }
 
-    // Goes from one POINT to the next.
+    // POINTS are looked for one by one and not kept: most questions end at an early one.
     private static final class PointWalk {
         private int busyEnd = 0;
         private int end = 0;
@@ -1190,7 +1190,7 @@ public final class DutiesProved {
             return statements;
         }
 
-        // Leaves the place behind the statement, or at the letter with which it can't go on.
+        // The place stays where the reading ended, as a FAULT tells it.
         private boolean readStatement() {
             verb = here();
             String marks = marksOf(verb);
@@ -1207,7 +1207,7 @@ public final class DutiesProved {
             return true;
         }
 
-        // The marks that stand behind the numbers of a statement, one behind each.
+        // Each number has one mark behind it, so its marks alone tell how a statement looks.
         private static String marksOf(int verb) {
             switch (verb) {
                 case 't':

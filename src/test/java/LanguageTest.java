@@ -1,3 +1,4 @@
+import java.lang.reflect.Array;
 import java.lang.reflect.Constructor;
 import java.lang.reflect.Field;
 import java.lang.reflect.Method;
@@ -5,8 +6,10 @@ import java.lang.reflect.Modifier;
 import java.nio.charset.StandardCharsets;
 import java.nio.file.Files;
 import java.nio.file.Path;
+import java.util.ArrayDeque;
 import java.util.ArrayList;
 import java.util.Arrays;
+import java.util.IdentityHashMap;
 import java.util.List;
 import java.util.TreeSet;
 import java.util.regex.Matcher;
@@ -25,6 +28,8 @@ public final class LanguageTest {
         "int slackBy(int,int)", "long load(int)", "int anew()", "long missing(int,int)",
         "int whatIs(int,int)", "int row(int)", "int judge(int)", "int clear()",
         "int lots(int,int,int)", "int image()", "int on()", "int count(int)"};
+    private static final int MOST_OBJECTS = 100;
+    private static final int MOST_ELEMENTS = 2500;
     private static int wrong = 0;
 
     private static void must(boolean so, String what) {
@@ -37,6 +42,7 @@ public final class LanguageTest {
     public static void main(String[] args) throws Exception {
         face();
         classes();
+        room();
         text(Files.readString(Path.of("src/main/java/DutiesProved.java"), StandardCharsets.ISO_8859_1));
         System.out.println(wrong == 0 ? "the face and the language are as told" : wrong + " are not");
         if (wrong != 0) System.exit(1);
@@ -84,6 +90,44 @@ public final class LanguageTest {
         }
         must(fields <= 20, "twenty fields at most: " + c);
         for (Method m : c.getDeclaredMethods()) must(m.getParameterCount() <= 7, "seven parameters: " + m);
+    }
+
+    /** All calls of a run live in one room: an object is small, and no call makes it larger. */
+    private static void room() throws IllegalAccessException {
+        DutiesProved x = new DutiesProved();
+        must(smallEnough(x), "a new object is small");
+        for (int task = 0; task < 6; task++) x.tasks(20, 2, 60);
+        for (int i = 0; i < 96; i++) x.letter('x');
+        for (int i = 0; i < 8; i++) x.row(i);
+        x.image();
+        x.first(3, 0);
+        x.missing(20, 0);
+        x.whatIs(5, 1);
+        must(smallEnough(x), "a full object is small");
+    }
+
+    private static boolean smallEnough(Object whole) throws IllegalAccessException {
+        IdentityHashMap<Object, Boolean> seen = new IdentityHashMap<>();
+        ArrayDeque<Object> left = new ArrayDeque<>();
+        left.add(whole);
+        seen.put(whole, true);
+        int elements = 0;
+        while (!left.isEmpty()) {
+            Object one = left.remove();
+            if (one.getClass().isArray()) {
+                elements += Array.getLength(one);
+                continue;
+            }
+            for (Field f : one.getClass().getDeclaredFields()) {
+                if (Modifier.isStatic(f.getModifiers())) continue;
+                elements++;
+                if (f.getType().isPrimitive()) continue;
+                f.setAccessible(true);
+                Object value = f.get(one);
+                if (value != null && seen.put(value, true) == null) left.add(value);
+            }
+        }
+        return seen.size() <= MOST_OBJECTS && elements <= MOST_ELEMENTS;
     }
 
     private static void text(String text) {
